@@ -896,7 +896,7 @@ public final class AbsentLords {
         }
     }
 
-    /** The TOKENS of a tape: as many as a text can have, one more, and the end. */
+    /** The TOKENS of a tape: as many as a text can have, and one more, or the end. */
     private static final class Tokens {
         static final int MOST = 400;
 
@@ -923,10 +923,10 @@ public final class AbsentLords {
         private static final String WORDS = "house  person right  away   goes   comes  dies   rents  seed   if     then   else   rent   age    gone   got    year   rights lord   which  home   ";
         private static final String SIGNS = ";=+-*/<()";
 
-        final int[] kinds = new int[MOST + 2];
-        final int[] starts = new int[MOST + 2];
+        final int[] kinds = new int[MOST + 1];
+        final int[] starts = new int[MOST + 1];
         // An INT's number, or a NAME's letters, five bits each, so that NAMES compare as numbers.
-        final long[] values = new long[MOST + 2];
+        final long[] values = new long[MOST + 1];
         private final byte[] tape;
         private int length = 0;
         private int next = 0;
@@ -938,14 +938,12 @@ public final class AbsentLords {
         void scan(int newLength) {
             length = Math.min(newLength, tape.length);
             next = 0;
-            // Behind one TOKEN too many nothing is looked at any more.
+            // One TOKEN too many is refused, so nothing behind it is ever looked at.
             for (int i = 0; i <= MOST; i++) {
                 skipBlanks();
                 starts[i] = next;
                 kinds[i] = next < length ? scanToken(i) : END;
             }
-            starts[MOST + 1] = length;
-            kinds[MOST + 1] = END;
         }
 
         private void skipBlanks() {
@@ -1086,6 +1084,8 @@ public final class AbsentLords {
             if (fault == 0) {
                 fault = doubt;
                 faultPlace = doubtPlace;
+            } else {
+                faultPlace = tokens.starts[taken];
             }
             return fault;
         }
@@ -1097,7 +1097,6 @@ public final class AbsentLords {
             rights = 0;
             absences = 0;
             fault = 0;
-            faultPlace = NONE;
             doubt = 0;
             doubtPlace = NONE;
         }
@@ -1106,35 +1105,31 @@ public final class AbsentLords {
             if (text.houses >= MOST_HOUSES) {
                 return refuse(ROOM);
             }
-            if (!take(Tokens.HOUSE)) {
-                return false;
-            }
-            suspectOldName();
-            houseNames[text.houses] = value();
-            if (!take(Tokens.NAME)) {
-                return false;
-            }
-            suspectNumber();
-            text.rents[text.houses] = (int) value();
+            boolean well = readNamed(Tokens.HOUSE, houseNames, text.rents, text.houses);
             text.houses++;
-            return take(Tokens.INT) && take(';');
+            return well;
         }
 
         private boolean readPerson() {
             if (text.people >= MOST_PEOPLE) {
                 return refuse(ROOM);
             }
-            if (!take(Tokens.PERSON)) {
+            boolean well = readNamed(Tokens.PERSON, personNames, text.ages, text.people);
+            text.people++;
+            return well;
+        }
+
+        private boolean readNamed(int word, long[] names, int[] numbers, int at) {
+            if (!take(word)) {
                 return false;
             }
             suspectOldName();
-            personNames[text.people] = value();
+            names[at] = value();
             if (!take(Tokens.NAME)) {
                 return false;
             }
             suspectNumber();
-            text.ages[text.people] = (int) value();
-            text.people++;
+            numbers[at] = (int) value();
             return take(Tokens.INT) && take(';');
         }
 
@@ -1279,18 +1274,17 @@ public final class AbsentLords {
         /** Goes behind the TOKEN at hand, if it is of the one kind with which the text goes on. */
         private boolean take(int kind) {
             if (tokens.kinds[taken] != kind) {
-                return refuse(SYNTAX);
+                fault = SYNTAX;
+            } else if (taken >= Tokens.MOST) {
+                fault = ROOM;
+            } else {
+                taken++;
             }
-            if (taken >= Tokens.MOST) {
-                return refuse(ROOM);
-            }
-            taken++;
-            return true;
+            return fault == 0;
         }
 
         private boolean refuse(int number) {
             fault = number;
-            faultPlace = tokens.starts[taken];
             return false;
         }
 
@@ -1499,6 +1493,8 @@ public final class AbsentLords {
         private static final int STACK = 16;
 
         private final int[] landlords = new int[MOST_HOUSES];
+        private final int[] lordships = new int[MOST_PEOPLE];
+        private final int[] ownRents = new int[MOST_PEOPLE];
         private final int[] stack = new int[STACK];
         private Text text;
         private State state;
@@ -1512,8 +1508,17 @@ public final class AbsentLords {
         void look(Text newText, State newState) {
             text = newText;
             state = newState;
-            for (int house = 0; house < MOST_HOUSES; house++) {
-                landlords[house] = house < text.houses ? state.landlordOf(house) : NOBODY;
+            for (int person = 0; person < MOST_PEOPLE; person++) {
+                lordships[person] = 0;
+                ownRents[person] = 0;
+            }
+            for (int house = 0; house < text.houses; house++) {
+                int landlord = state.landlordOf(house);
+                landlords[house] = landlord;
+                if (landlord >= 0) {
+                    lordships[landlord]++;
+                    ownRents[landlord] += text.rents[house];
+                }
             }
         }
 
@@ -1577,7 +1582,7 @@ public final class AbsentLords {
         private int variableOf(int variable, int person, int house) {
             switch (variable) {
                 case 0:
-                    return house == NONE ? rentAsLandlord(person) : text.rents[house];
+                    return house == NONE ? ownRents[person] : text.rents[house];
                 case 1:
                     return state.ages[person];
                 case 2:
@@ -1589,7 +1594,7 @@ public final class AbsentLords {
                 case 5:
                     return rightsHeld(person);
                 case 6:
-                    return timesLandlord(person);
+                    return lordships[person];
                 case 7:
                     return person;
                 default:
@@ -1597,30 +1602,10 @@ public final class AbsentLords {
             }
         }
 
-        private int rentAsLandlord(int person) {
-            int rent = 0;
-            for (int house = 0; house < text.houses; house++) {
-                if (landlords[house] == person) {
-                    rent += text.rents[house];
-                }
-            }
-            return rent;
-        }
-
         private int rightsHeld(int person) {
             int many = 0;
             for (int house = 0; house < text.houses; house++) {
                 many += state.holders[house] >> person & 1;
-            }
-            return many;
-        }
-
-        private int timesLandlord(int person) {
-            int many = 0;
-            for (int house = 0; house < text.houses; house++) {
-                if (landlords[house] == person) {
-                    many++;
-                }
             }
             return many;
         }
