@@ -26,10 +26,8 @@ public final class AbsentLords {
 
     private final byte[] tape = new byte[MOST_BYTES];
     private int taped = 0;
+    private final Reader reader = new Reader();
     private Text text = new Text();
-    // Read into, and made the text only without a FAULT: a wrong one changes nothing.
-    private Text draft = new Text();
-    private final Reader reader = new Reader(tape, draft);
 
     private final State now = new State();
     private final State trial = new State();
@@ -40,8 +38,8 @@ public final class AbsentLords {
     private final State[] slots = new State[SLOTS];
     private int heldSlots = 0;
 
-    private final Court court = new Court(text, now);
-    private final Course course = new Course(court);
+    private final Court court = new Court();
+    private final Course course = new Course();
     private final Letters letters = new Letters();
 
     public AbsentLords() {
@@ -80,12 +78,10 @@ public final class AbsentLords {
     }
 
     public int read() {
-        int fault = reader.readTape(taped, draft);
+        int fault = reader.readTape(tape, taped);
         taped = 0;
         if (fault == 0) {
-            Text old = text;
-            text = draft;
-            draft = old;
+            text = reader.exchange(text);
             now.begin(text);
             past.clear();
             letters.clear();
@@ -113,7 +109,7 @@ public final class AbsentLords {
                 return now.holders[house];
             case 3:
                 court.look(text, now);
-                return court.rentsOf(house);
+                return court.rentsOf(text, now, house);
             default:
                 return NONE;
         }
@@ -169,7 +165,7 @@ public final class AbsentLords {
 
     private int chanceNow(int law, int person) {
         court.look(text, now);
-        return court.chanceOf(law, person);
+        return court.chanceOf(text, now, law, person);
     }
 
     // ---- what is done
@@ -369,9 +365,9 @@ public final class AbsentLords {
     /** The fewest of some PEOPLE who, with those that are there, serve all HOUSES that the living can. */
     private int fewestFor(int from, int there) {
         int fewest = from;
+        // By rising bits: of as many the least come first.
         for (int bits = 0; bits < 1 << text.people; bits++) {
-            boolean fewer = Integer.bitCount(bits) < Integer.bitCount(fewest)
-                    || Integer.bitCount(bits) == Integer.bitCount(fewest) && bits < fewest;
+            boolean fewer = Integer.bitCount(bits) < Integer.bitCount(fewest);
             if ((bits & ~from) == 0 && fewer && serveAll(bits | there)) {
                 fewest = bits;
             }
@@ -790,7 +786,7 @@ public final class AbsentLords {
         court.look(text, now);
         int all = 0;
         for (int house = 0; house < text.houses; house++) {
-            all += court.rentsOf(house);
+            all += court.rentsOf(text, now, house);
         }
         return all;
     }
@@ -927,15 +923,12 @@ public final class AbsentLords {
         final int[] starts = new int[MOST + 1];
         // An INT's number, or a NAME's letters, five bits each, so that NAMES compare as numbers.
         final long[] values = new long[MOST + 1];
-        private final byte[] tape;
+        private byte[] tape = new byte[0];
         private int length = 0;
         private int next = 0;
 
-        Tokens(byte[] itsTape) {
-            tape = itsTape;
-        }
-
-        void scan(int newLength) {
+        void scan(byte[] newTape, int newLength) {
+            tape = newTape;
             length = Math.min(newLength, tape.length);
             next = 0;
             // One TOKEN too many is refused, so nothing behind it is ever looked at.
@@ -1035,10 +1028,11 @@ public final class AbsentLords {
         private static final int MOST_DEPTH = 6;
         private static final int MOST_NUMBER = 99;
 
-        private final Tokens tokens;
+        private final Tokens tokens = new Tokens();
         private final long[] houseNames = new long[MOST_HOUSES];
         private final long[] personNames = new long[MOST_PEOPLE];
-        private Text text;
+        // Given away only without a FAULT: a wrong one changes nothing.
+        private Text text = new Text();
         // How many TOKENS are behind: MOST at most, so that there is always one at hand.
         private int taken = 0;
         private int rights = 0;
@@ -1049,14 +1043,16 @@ public final class AbsentLords {
         private int doubt = 0;
         private int doubtPlace = NONE;
 
-        Reader(byte[] tape, Text firstText) {
-            tokens = new Tokens(tape);
-            text = firstText;
+        /** Gives what was read for another text, to be read into from then on. */
+        Text exchange(Text other) {
+            Text ready = text;
+            text = other;
+            return ready;
         }
 
-        int readTape(int length, Text into) {
-            tokens.scan(length);
-            begin(into);
+        int readTape(byte[] tape, int length) {
+            tokens.scan(tape, length);
+            begin();
             boolean well = true;
             // Each TELL takes a TOKEN at least, and one too many is refused.
             for (int tells = 0; tells <= Tokens.MOST && well && kind() != Tokens.END; tells++) {
@@ -1090,8 +1086,7 @@ public final class AbsentLords {
             return fault;
         }
 
-        private void begin(Text into) {
-            text = into;
+        private void begin() {
             text.empty();
             taken = 0;
             rights = 0;
@@ -1426,6 +1421,14 @@ public final class AbsentLords {
             return landlord < 0 ? NOBODY : longestGone(holders[house] & away & ~(1 << landlord));
         }
 
+        int rightsHeld(int person) {
+            int many = 0;
+            for (int house = 0; house < MOST_HOUSES; house++) {
+                many += holders[house] >> person & 1;
+            }
+            return many;
+        }
+
         int allLandlords(Text text) {
             int bits = 0;
             for (int house = 0; house < text.houses; house++) {
@@ -1496,18 +1499,9 @@ public final class AbsentLords {
         private final int[] lordships = new int[MOST_PEOPLE];
         private final int[] ownRents = new int[MOST_PEOPLE];
         private final int[] stack = new int[STACK];
-        private Text text;
-        private State state;
-
-        Court(Text firstText, State firstState) {
-            text = firstText;
-            state = firstState;
-        }
 
         /** The LANDLORDS are found once here, as they stay while nobody goes, comes or dies. */
-        void look(Text newText, State newState) {
-            text = newText;
-            state = newState;
+        void look(Text text, State state) {
             for (int person = 0; person < MOST_PEOPLE; person++) {
                 lordships[person] = 0;
                 ownRents[person] = 0;
@@ -1526,17 +1520,20 @@ public final class AbsentLords {
             return landlords[house];
         }
 
-        int rentsOf(int house) {
+        int rentsOf(Text text, State state, int house) {
             int landlord = landlords[house];
-            return landlord < 0 ? 0 : Math.max(0, Math.min(MOST_RENTS, valueOf(RENTS, landlord, house)));
+            if (landlord < 0) {
+                return 0;
+            }
+            return Math.max(0, Math.min(MOST_RENTS, valueOf(text, state, RENTS, landlord, house)));
         }
 
-        int chanceOf(int law, int person) {
-            return Math.max(0, Math.min(MOST_CHANCE, valueOf(law, person, NONE)));
+        int chanceOf(Text text, State state, int law, int person) {
+            return Math.max(0, Math.min(MOST_CHANCE, valueOf(text, state, law, person, NONE)));
         }
 
         /** A LAW of a PERSON, and of a HOUSE if it is not NONE. */
-        private int valueOf(int law, int person, int house) {
+        private int valueOf(Text text, State state, int law, int person, int house) {
             int at = text.starts[law];
             int top = 0;
             // No jump goes back, so each word is met once at most.
@@ -1547,7 +1544,7 @@ public final class AbsentLords {
                     if (top >= STACK) {
                         return 0;
                     }
-                    stack[top] = word >= 0 ? word : variableOf(Text.VARIABLE - word, person, house);
+                    stack[top] = word >= 0 ? word : variableOf(text, state, Text.VARIABLE - word, person, house);
                     top++;
                 } else if (word == Text.STOP) {
                     return top > 0 ? stack[top - 1] : 0;
@@ -1579,7 +1576,7 @@ public final class AbsentLords {
             }
         }
 
-        private int variableOf(int variable, int person, int house) {
+        private int variableOf(Text text, State state, int variable, int person, int house) {
             switch (variable) {
                 case 0:
                     return house == NONE ? ownRents[person] : text.rents[house];
@@ -1592,7 +1589,7 @@ public final class AbsentLords {
                 case 4:
                     return state.year;
                 case 5:
-                    return rightsHeld(person);
+                    return state.rightsHeld(person);
                 case 6:
                     return lordships[person];
                 case 7:
@@ -1601,37 +1598,25 @@ public final class AbsentLords {
                     return Integer.bitCount(state.home);
             }
         }
-
-        private int rightsHeld(int person) {
-            int many = 0;
-            for (int house = 0; house < text.houses; house++) {
-                many += state.holders[house] >> person & 1;
-            }
-            return many;
-        }
     }
 
     /** Lets YEARS go by in a state. */
     private static final class Course {
-        private static final int GOING = 8;
-        private static final int COMING = 16;
+        // By the LAWS' numbers, so that no two lots of a year are of one which.
+        private static final int[] LOTS = {8, 16, 0};
 
-        private final Court court;
+        private final Court court = new Court();
         // What each gets this year: paid behind all LAWS, which see the year as it began.
         private final int[] due = new int[MOST_PEOPLE];
-
-        Course(Court itsCourt) {
-            court = itsCourt;
-        }
 
         /** With all chances. */
         void goOn(Text text, State state, int n, int seed) {
             for (int i = 0; i < n; i++) {
                 court.look(text, state);
-                reckonDue(text);
-                int dying = struckBy(DIES, state, state.alive(), 0, seed);
-                int going = struckBy(GOES, state, state.home & ~dying, GOING, seed);
-                int coming = struckBy(COMES, state, state.away & ~dying, COMING, seed);
+                reckonDue(text, state);
+                int dying = struckBy(text, state, DIES, state.alive(), seed);
+                int going = struckBy(text, state, GOES, state.home & ~dying, seed);
+                int coming = struckBy(text, state, COMES, state.away & ~dying, seed);
                 turn(text, state, dying, going, coming);
             }
         }
@@ -1640,29 +1625,29 @@ public final class AbsentLords {
         void standStill(Text text, State state, int n) {
             court.look(text, state);
             for (int i = 0; i < n; i++) {
-                reckonDue(text);
+                reckonDue(text, state);
                 turn(text, state, 0, 0, 0);
             }
         }
 
-        private void reckonDue(Text text) {
+        private void reckonDue(Text text, State state) {
             for (int person = 0; person < MOST_PEOPLE; person++) {
                 due[person] = 0;
             }
             for (int house = 0; house < text.houses; house++) {
                 int landlord = court.landlordSeen(house);
                 if (landlord >= 0) {
-                    due[landlord] += court.rentsOf(house);
+                    due[landlord] += court.rentsOf(text, state, house);
                 }
             }
         }
 
-        private int struckBy(int law, State state, int among, int kind, int seed) {
+        private int struckBy(Text text, State state, int law, int among, int seed) {
             int bits = 0;
             for (int person = 0; person < MOST_PEOPLE; person++) {
                 if (has(among, person)) {
-                    int which = 32 * state.year + kind + person;
-                    if (lotOfHundred(seed, which) < court.chanceOf(law, person)) {
+                    int which = 32 * state.year + LOTS[law] + person;
+                    if (lotOfHundred(seed, which) < court.chanceOf(text, state, law, person)) {
                         bits |= 1 << person;
                     }
                 }

@@ -24,6 +24,7 @@ public final class FaultTest {
         test.wrong();
         test.firstByPlace();
         test.whatChanges();
+        test.oneBehindTheOther();
         test.due.end();
     }
 
@@ -243,6 +244,43 @@ public final class FaultTest {
         at("house a 1; right ^b c;", NAME);
         at(many(5, "house h# 1;") + "^house x 1; .", ROOM);
         at("^. " + many(6, "house h# 1;"), SYNTAX);
+    }
+
+    /** What a text does not tell is not that of one ahead, nor of one ahead of that. */
+    private void oneBehindTheOther() {
+        AbsentLords x = new AbsentLords();
+        String full = "house h 9; house k 8; person a 1; person b 2; person c 3; person d 4; person e 5; right a h;"
+                + "right b h; right c h; right d h; right e h; right a k; right b k; right c k; right d k; right e k;"
+                + many(6, "away a 7;") + "goes = 1 + 2; comes = 4; dies = 5; rents = 6; seed 77;";
+        String bare = "house h 9; house k 8; person a 1; person b 2; goes = 100;";
+        for (int i = 0; i < 4; i++) {
+            due.is("full", Due.read(x, full), 0);
+            due.is("full: RENTS", x.house(0, 3), 6);
+            due.is("full: GOES", x.person(0, 6), 3);
+            x.send(1);
+            x.years(1);
+            if (i % 2 == 1) {
+                due.is("a wrong one between", Due.read(x, full + "right a h;"), TWICE);
+            }
+            due.is("bare", Due.read(x, bare), 0);
+            due.is("bare: all HOME", x.count(3), 3);
+            due.is("bare: nobody AWAY", x.count(4), 0);
+            due.is("bare: gone", x.count(14), 0);
+            due.is("bare: got", x.count(7), 0);
+            due.is("bare: RIGHTS", x.count(12), 0);
+            due.is("bare: GOES", x.person(0, 6), 100);
+            due.is("bare: COMES", x.person(0, 7), 0);
+            due.is("bare: DIES", x.person(0, 8), 0);
+            x.give(0, 0, true);
+            x.send(0);
+            due.is("bare: RENTS", x.house(0, 3), 9);
+        }
+        // By SEED 0 the first one's lot to go is 18, by SEED 77 it is 39.
+        Due.read(x, full);
+        Due.read(x, full);
+        Due.read(x, "person a 1; goes = 30;");
+        x.years(1);
+        due.is("SEED 0 again", x.count(4), 1);
     }
 
     private void whatChanges() {

@@ -17,6 +17,7 @@ public final class LettersTest {
         test.chain();
         test.notSo();
         test.ask();
+        test.eachByItself();
         test.wrongOnes();
         test.due.end();
     }
@@ -193,6 +194,47 @@ public final class LettersTest {
         due.is("a and c", x.ask(2), 2);
         due.is("a before c", x.before(2, 0, 2), 3);
         due.is("a before d", x.before(2, 0, 3), 5);
+    }
+
+    /** Each asked with nothing asked for ahead of it but by fewer letters. */
+    private void eachByItself() {
+        for (int asked = 0; asked < 9; asked++) {
+            AbsentLords x = Due.county(FOUR);
+            x.tell(3, 0);
+            x.tell(2, 3);
+            due.is("by 0", x.orders(0), 24);
+            switch (asked) {
+                case 0:
+                    due.is("first", x.first(2, 0), 2);
+                    break;
+                case 1:
+                    due.is("last", x.last(2, 2), 1);
+                    break;
+                case 2:
+                    due.is("placed", x.placed(2, 3, 1), 2);
+                    break;
+                case 3:
+                    due.is("before", x.before(2, 1, 3), 2);
+                    break;
+                case 4:
+                    due.is("sum", x.sum(2, 2), 1);
+                    break;
+                case 5:
+                    due.is("ahead", x.ahead(2, 0), 12);
+                    break;
+                case 6:
+                    due.is("foremost", x.foremost(2), 2);
+                    break;
+                case 7:
+                    due.is("ask", x.ask(2), 13);
+                    break;
+                default:
+                    due.is("order", x.order(2, 0, 0), 1);
+                    break;
+            }
+            due.is("by 0 again", x.orders(0), 24);
+            due.is("by 1 then", x.orders(1), 12);
+        }
     }
 
     private void wrongOnes() {

@@ -169,6 +169,8 @@ public final class WhoTest {
         due.is("but m", x.idle(), 20);
         x.bury(1);
         due.is("b DEAD", x.idle(), 23);
+        x.send(0);
+        due.is("a AWAY", x.idle(), 22);
     }
 
     private void share() {

@@ -37,6 +37,11 @@ public final class WouldBeTest {
         x.bury(1);
         due.is("heir of h, b DEAD", x.heir(0), 2);
         due.is("race of h, b DEAD", x.race(0), 5);
+        x.undo();
+        x.call(0);
+        x.send(0);
+        due.is("heir of h, a back", x.heir(0), 0);
+        due.is("race of h, a back", x.race(0), 3);
         for (int house : new int[] {-1, 3, 5, 32, Integer.MAX_VALUE, Integer.MIN_VALUE}) {
             due.is("heir " + house, x.heir(house), NONE);
             due.is("race " + house, x.race(house), NONE);
@@ -70,6 +75,8 @@ public final class WouldBeTest {
         due.is("at once", x.best(2, 3, 0), 0);
         due.is("how much", x.best(2, 3, 1), 60);
         due.is("for 40", x.best(2, 40, 1), 800);
+        due.is("for 1", x.best(2, 1, 0), 0);
+        due.is("for 1, how much", x.best(2, 1, 1), 20);
         due.is("not HOME", x.best(0, 3, 0), NONE);
         due.is("n 0", x.best(2, 0, 0), NONE);
         due.is("n 41", x.best(2, 41, 0), NONE);
@@ -102,6 +109,11 @@ public final class WouldBeTest {
         due.is("n 0", x.loss(0, 0), 0);
         due.is("n 40", x.loss(0, 40), 400);
         due.is("b has none", x.loss(1, 4), 0);
+        x.call(0);
+        x.send(0);
+        due.is("a would get it", x.loss(1, 4), 40);
+        x.undo();
+        x.undo();
         due.is("HOME", x.loss(2, 4), -100000);
         due.is("n -1", x.loss(0, -1), -100000);
         due.is("n 41", x.loss(0, 41), -100000);
@@ -130,6 +142,16 @@ public final class WouldBeTest {
             due.is("d of d and c, " + choice, x.duel(3, 2, 40, choice, 0), 40 * turned[choice]);
             due.is("c of d and c, " + choice, x.duel(3, 2, 40, choice, 1), 40 * turnedOther[choice]);
         }
+        AbsentLords y = Due.county("house h 10; person a 1; person b 1; right a h; right b h; away a 1;");
+        y.years(3);
+        y.call(0);
+        y.send(1);
+        y.years(2);
+        y.call(1);
+        due.is("a, so far is not in it", y.duel(0, 1, 1, 1, 0), 10);
+        due.is("b, so far is not in it", y.duel(0, 1, 1, 1, 1), 0);
+        due.is("b alone", y.duel(0, 1, 1, 2, 1), 10);
+        due.is("rest then", y.rest(0, 1, 1), 10);
         due.is("n 0", x.duel(2, 3, 0, 0, 0), NONE);
         due.is("n 41", x.duel(2, 3, 41, 0, 0), NONE);
         due.is("choice -1", x.duel(2, 3, 1, -1, 0), NONE);
