@@ -105,7 +105,7 @@ public final class FormTest {
         for (String line : code.split("\n")) {
             if (line.contains("new ")) {
                 boolean field = line.matches("\\s+(private )?(static )?(final )?[\\w\\[\\]]+ \\w+ = new .*;");
-                boolean row = line.matches("\\s+(slots\\[slot\\]|states\\[i\\]) = new State\\(\\);|\\s+tokens = new Tokens\\(tape\\);");
+                boolean row = line.matches("\\s+(slots\\[slot\\]|states\\[i\\]) = new State\\(\\);");
                 due.is("made with the object: " + line.strip(), field || row, true);
             }
         }
