@@ -2,17 +2,31 @@
 final class Due {
     private int wrong = 0;
     private int asked = 0;
+    private String sentence = "";
+
+    /** The sentence of the document that is looked at from here on: wrong answers are told with it. */
+    void about(String newSentence) {
+        sentence = newSentence + " | ";
+    }
 
     void is(String call, long got, long want) {
         asked++;
         if (got != want) {
             wrong++;
-            System.out.println(call + " answered " + got + ", due is " + want);
+            System.out.println(sentence + call + " answered " + got + ", due is " + want);
         }
     }
 
     void is(String call, boolean got, boolean want) {
         is(call, got ? 1 : 0, want ? 1 : 0);
+    }
+
+    void is(String call, String got, String want) {
+        asked++;
+        if (!got.equals(want)) {
+            wrong++;
+            System.out.println(sentence + call + "\n  answered " + got + "\n  due is   " + want);
+        }
     }
 
     void end() {
@@ -25,9 +39,15 @@ final class Due {
     /** Puts a text on the tape, which must have room for its last twenty bytes whole. */
     static void feed(AbsentLords x, byte[] text) {
         for (int at = 0; at < text.length; at += 20) {
-            x.feed(word(text, at), word(text, at + 4), word(text, at + 8), word(text, at + 12), word(text, at + 16));
+            int[] w = words(text, at);
+            x.feed(w[0], w[1], w[2], w[3], w[4]);
         }
         x.back((20 - text.length % 20) % 20);
+    }
+
+    /** Twenty bytes from a place on, with blanks behind the text. */
+    static int[] words(byte[] text, int at) {
+        return new int[] {word(text, at), word(text, at + 4), word(text, at + 8), word(text, at + 12), word(text, at + 16)};
     }
 
     private static int word(byte[] text, int at) {

@@ -1,15 +1,5 @@
 /** Promises 4 and 5: read and place. */
-public final class FaultTest {
-    private static final String[] WORDS = {"house", "person", "right", "away", "goes", "comes", "dies", "rents", "seed",
-        "if", "then", "else", "rent", "age", "gone", "got", "year", "rights", "lord", "which", "home"};
-    private static final int SYNTAX = 1;
-    private static final int ROOM = 2;
-    private static final int TWICE = 3;
-    private static final int NAME = 4;
-    private static final int WRONG = 5;
-
-    private final Due due = new Due();
-
+public final class FaultTest extends Faults {
     public static void main(String[] args) {
         FaultTest test = new FaultTest();
         test.right();
@@ -26,23 +16,6 @@ public final class FaultTest {
         test.whatChanges();
         test.oneBehindTheOther();
         test.due.end();
-    }
-
-    private void none(String text) {
-        fault(text, 0, AbsentLords.NONE);
-    }
-
-    private void fault(String text, int number, int place) {
-        AbsentLords x = new AbsentLords();
-        due.is("read of " + text, Due.read(x, text), number);
-        due.is("place in " + text, x.place(), place);
-        due.is("tape behind " + text, x.count(8), 0);
-    }
-
-    /** The FAULT is where the sign ^ stands, which is taken out. */
-    private void at(String marked, int number) {
-        int place = marked.indexOf('^');
-        fault(marked.substring(0, place) + marked.substring(place + 1), number, place);
     }
 
     private void right() {
@@ -136,14 +109,6 @@ public final class FaultTest {
         at("goes = 1 ^if 1 < 2 then 3 else 4;", SYNTAX);
         at("goes = if ^;", SYNTAX);
         at("goes = if 1 < 2 then 3 else 4 ^else 5;", SYNTAX);
-    }
-
-    private static String many(int many, String tell) {
-        StringBuilder text = new StringBuilder();
-        for (int i = 0; i < many; i++) {
-            text.append(tell.replace('#', (char) ('a' + i)));
-        }
-        return text.toString();
     }
 
     private void roomOfSorts() {
