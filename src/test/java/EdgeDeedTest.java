@@ -3,11 +3,6 @@ import java.util.function.Function;
 
 /** Each sentence of promises 8 to 13, 45 and 46 that names an edge: what is done, undone, held and restored. */
 public final class EdgeDeedTest {
-    private static final int[] NO_PERSON = {-1, -2, 7, 8, 31, 32, 39, Integer.MAX_VALUE, Integer.MIN_VALUE};
-    private static final int[] NO_HOUSE = {-1, -2, 5, 6, 31, 32, 37, Integer.MAX_VALUE, Integer.MIN_VALUE};
-    private static final int[] NO_YEARS = {-1, -40, 41, 42, Integer.MAX_VALUE, Integer.MIN_VALUE};
-    private static final int[] NO_SLOT = {-1, -2, 3, 4, 31, 32, 33, 34, Integer.MAX_VALUE, Integer.MIN_VALUE};
-
     private final Due due = new Due();
 
     public static void main(String[] args) {
@@ -71,7 +66,7 @@ public final class EdgeDeedTest {
         due.about("Promise 8: false, and nothing happens: not HOME, no such PERSON.");
         refused("send of one AWAY", x -> x.send(Busy.AWAY));
         refused("send of one DEAD", x -> x.send(Busy.DEAD));
-        for (int person : NO_PERSON) {
+        for (int person : Edges.NO_PERSON) {
             refused("send(" + person + ")", x -> x.send(person));
         }
     }
@@ -93,7 +88,7 @@ public final class EdgeDeedTest {
         due.about("Promise 9: false, and nothing happens: not AWAY, no such PERSON.");
         refused("call of one HOME", x -> x.call(Busy.HOME));
         refused("call of one DEAD", x -> x.call(Busy.DEAD));
-        for (int person : NO_PERSON) {
+        for (int person : Edges.NO_PERSON) {
             refused("call(" + person + ")", x -> x.call(person));
         }
     }
@@ -117,7 +112,7 @@ public final class EdgeDeedTest {
     private void notBuried() {
         due.about("Promise 10: false, and nothing happens: DEAD, no such PERSON.");
         refused("bury of one DEAD", x -> x.bury(Busy.DEAD));
-        for (int person : NO_PERSON) {
+        for (int person : Edges.NO_PERSON) {
             refused("bury(" + person + ")", x -> x.bury(person));
         }
     }
@@ -144,11 +139,11 @@ public final class EdgeDeedTest {
         refused("given to one who has it", x -> x.give(0, 0, true));
         refused("taken from one who has it not", x -> x.give(0, 1, false));
         refused("taken from the last one", x -> x.give(6, 0, false));
-        for (int person : NO_PERSON) {
+        for (int person : Edges.NO_PERSON) {
             refused("give(" + person + ", 0, true)", x -> x.give(person, 0, true));
             refused("give(" + person + ", 0, false)", x -> x.give(person, 0, false));
         }
-        for (int house : NO_HOUSE) {
+        for (int house : Edges.NO_HOUSE) {
             refused("give(0, " + house + ", true)", x -> x.give(0, house, true));
             refused("give(0, " + house + ", false)", x -> x.give(0, house, false));
         }
@@ -203,7 +198,7 @@ public final class EdgeDeedTest {
 
     private void noSuchYears() {
         due.about("Promise 12: NONE, and nothing happens: no such n.");
-        for (int n : NO_YEARS) {
+        for (int n : Edges.NOT_FROM_0) {
             due.is("years(" + n + ")", Busy.county().years(n), AbsentLords.NONE);
             Seen.unchanged(due, "years(" + n + ")", Busy::county, x -> x.years(n));
         }
@@ -323,7 +318,7 @@ public final class EdgeDeedTest {
 
     private void noSlot() {
         due.about("Promise 45: false: no such one.");
-        for (int slot : NO_SLOT) {
+        for (int slot : Edges.NO_SLOT) {
             refused("hold(" + slot + ")", x -> x.hold(slot));
         }
     }
@@ -366,7 +361,7 @@ public final class EdgeDeedTest {
     private void notRestored() {
         due.about("Promise 46: false, and nothing happens: no such one, nothing is held.");
         refused("restore(1), where nothing is held", x -> x.restore(1));
-        for (int slot : NO_SLOT) {
+        for (int slot : Edges.NO_SLOT) {
             refused("restore(" + slot + ")", x -> x.restore(slot));
         }
         for (int slot = 0; slot <= 2; slot++) {

@@ -20,6 +20,7 @@ public final class EdgeLawTest {
         test.notLookedAt();
         test.ages();
         test.gone();
+        test.gotAndYear();
         test.numbersOfAll();
         test.rentOfLaws();
         test.held();
@@ -215,6 +216,25 @@ public final class EdgeLawTest {
         AbsentLords z = Due.county("person a 1; away a 9; dies = 100;");
         z.years(1);
         due.is("died by chance", z.person(0, 2), 0);
+    }
+
+    private void gotAndYear() {
+        due.about("got: how much they got so far; year");
+        AbsentLords x = Due.county("house h 2; person a 1; person b 1; right a h; away a 1; goes = got; comes = 0; dies = 0;");
+        AbsentLords y = Due.county("person a 1; away a 1; goes = year;");
+        for (int year = 0; year <= 51; year++) {
+            due.is("got of the LANDLORD, held", x.person(0, 6), Math.min(2 * year, 100));
+            due.is("got of another", x.person(1, 6), 0);
+            due.is("year", y.person(0, 6), year);
+            x.years(1);
+            y.years(1);
+        }
+        x.call(0);
+        due.is("got stays, HOME", x.person(0, 3), 104);
+        x.bury(0);
+        due.is("got stays, DEAD", x.person(0, 3), 104);
+        due.is("got of one DEAD in a LAW", x.person(0, 6), 100);
+        due.is("what all got", x.count(7), 104);
     }
 
     private void numbersOfAll() {

@@ -2,7 +2,6 @@
 public final class EdgeLetterTest {
     private static final int NONE = AbsentLords.NONE;
     private static final int NO_ORDERS = -2;
-    private static final int[] NO_PERSON = {-1, -2, 7, 8, 31, 32, 39, Integer.MAX_VALUE, Integer.MIN_VALUE};
     private static final String PEOPLE = Faults.many(7, "person p# 1;");
 
     private final Due due = new Due();
@@ -74,7 +73,7 @@ public final class EdgeLetterTest {
         due.is("one and the same", Busy.county().tell(0, 0), NONE);
         Seen.unchanged(due, "tell(0, 0)", Busy::county, x -> x.tell(0, 0));
         due.is("one and the same, the last", Busy.county().tell(6, 6), NONE);
-        for (int person : NO_PERSON) {
+        for (int person : Edges.NO_PERSON) {
             due.is("tell(" + person + ", 0)", Busy.county().tell(person, 0), NONE);
             due.is("tell(0, " + person + ")", Busy.county().tell(0, person), NONE);
             due.is("tell(" + person + ", " + person + ")", Busy.county().tell(person, person), NONE);
@@ -121,6 +120,34 @@ public final class EdgeLetterTest {
         due.is("by all", x.ahead(6, 6), 63);
         due.is("by 20", full().orders(20), 720);
         due.is("by 5 of 20: five before g", full().orders(5), 840);
+        // Each asked by all behind one by none, and by none behind one by all.
+        for (int k = 6; k >= 0; k -= 6) {
+            int other = 6 - k;
+            int known = k / 6;
+            x.orders(other);
+            due.is("first by " + k, x.first(k, 6), 6 * known);
+            x.orders(other);
+            due.is("last by " + k, x.last(k, 0), 6 - 6 * known);
+            x.orders(other);
+            due.is("placed by " + k, x.placed(k, 0, 0), known == 1 ? 1 : 720);
+            x.orders(other);
+            due.is("before by " + k, x.before(k, 6, 0), known == 1 ? 0 : 2520);
+            x.orders(other);
+            due.is("sum by " + k, x.sum(k, 1), known == 1 ? 1 : 15120);
+            x.orders(other);
+            due.is("ahead by " + k, x.ahead(k, 6), 63 * known);
+            x.orders(other);
+            due.is("order by " + k, x.order(k, 719, 0), known == 1 ? NONE : 0);
+            x.orders(other);
+            due.is("orders by " + k, x.orders(k), known == 1 ? 1 : 5040);
+        }
+        AbsentLords y = told(2, 0, 2, 1);
+        y.orders(0);
+        due.is("foremost by 2", y.foremost(2), 2);
+        due.is("foremost by 0", y.foremost(0), 0);
+        y.orders(0);
+        due.is("ask by 1", y.ask(1), 13);
+        due.is("ask by 0", y.ask(0), 1);
     }
 
     private void noSuchK() {
@@ -209,7 +236,7 @@ public final class EdgeLetterTest {
             due.is("c at " + at, x.placed(1, 2, at), 360);
             due.is("nothing KNOWN, at " + at, x.placed(0, 0, at), 720);
         }
-        for (int at : NO_PERSON) {
+        for (int at : Edges.NO_PERSON) {
             due.is("at " + at, x.placed(1, 0, at), NONE);
         }
         AbsentLords three = Due.county(Faults.many(3, "person p# 1;"));
@@ -273,7 +300,7 @@ public final class EdgeLetterTest {
         due.is("foremost", x.foremost(2), NO_ORDERS);
         due.is("ask", x.ask(2), NO_ORDERS);
         due.is("by 1 there are", x.first(1, 0), 0);
-        for (int person : NO_PERSON) {
+        for (int person : Edges.NO_PERSON) {
             due.is("first of " + person, x.first(2, person), NONE);
             due.is("last of " + person, x.last(2, person), NONE);
             due.is("ahead of " + person, x.ahead(2, person), NONE);
@@ -318,7 +345,7 @@ public final class EdgeLetterTest {
             due.is("order " + i, x.order(0, i, 0), NONE);
             due.is("order " + i + " at the end", x.order(0, i, 6), NONE);
         }
-        for (int at : NO_PERSON) {
+        for (int at : Edges.NO_PERSON) {
             due.is("at " + at, x.order(0, 0, at), NONE);
             due.is("the last one at " + at, x.order(0, 5039, at), NONE);
         }
@@ -400,7 +427,7 @@ public final class EdgeLetterTest {
     private void noSuchPerson() {
         due.about("NONE: no such ones");
         AbsentLords x = full();
-        for (int person : NO_PERSON) {
+        for (int person : Edges.NO_PERSON) {
             due.is("first(20, " + person + ")", x.first(20, person), NONE);
             due.is("last(20, " + person + ")", x.last(20, person), NONE);
             due.is("placed(20, " + person + ", 0)", x.placed(20, person, 0), NONE);

@@ -19,6 +19,8 @@ public final class EdgeTapeTest {
         test.numbersOfFaults();
         test.faultsChangeNothing();
         test.inPlaceOfTheOneAhead();
+        test.lawsOfTheOneAhead();
+        test.fullTextsBehindOneAnother();
         test.emptyTape();
         test.places();
         test.latestPlace();
@@ -194,10 +196,23 @@ public final class EdgeTapeTest {
         due.about("else it is in place of the one ahead: year 0, all alive, nothing got; nothing can be undone, nothing"
                 + " is TOLD, SLOTS hold nothing");
         String[] texts = {"", "house z 3;", "person z 7;", "house x 1; person y 2; right y x; away y 4;", Busy.TEXT,
-            "house x 9; person y 2; goes = 50; seed 9999;", "seed 5;"};
+            "house x 9; person y 2; goes = 50; seed 9999;", "seed 5;", "house x 9; person y 2; right y x;",
+            Faults.many(5, "house h# 1;") + Faults.many(7, "person p# 1;"), "person y 2; away y 4; comes = 7; dies = 8;"};
         for (String text : texts) {
             Seen.alike(due, "read of " + text, () -> {
                 AbsentLords x = Busy.withoutTape();
+                Due.read(x, text);
+                return x;
+            }, () -> Due.county(text));
+            Seen.alike(due, "read behind two others, of " + text, () -> {
+                AbsentLords x = Due.county(Busy.TEXT);
+                Due.read(x, Busy.TEXT);
+                Due.read(x, text);
+                return x;
+            }, () -> Due.county(text));
+            Seen.alike(due, "read behind one with a FAULT, of " + text, () -> {
+                AbsentLords x = Due.county(Busy.TEXT);
+                Due.read(x, Busy.TEXT + "away g 100;");
                 Due.read(x, text);
                 return x;
             }, () -> Due.county(text));
@@ -214,6 +229,44 @@ public final class EdgeTapeTest {
         }
         due.is("orders by 1", x.orders(1), NONE);
         due.is("the first letter is number 0 again", x.tell(0, 1), 0);
+    }
+
+    private void lawsOfTheOneAhead() {
+        due.about("it is in place of the one ahead: LAWS that it does not tell are not those of that one");
+        String[] laws = {"goes", "comes", "dies", "rents"};
+        String county = "house h 9; person a 1; right a h; away a 1;";
+        for (int told = 0; told < 4; told++) {
+            for (int ahead = 0; ahead < 4; ahead++) {
+                AbsentLords x = Due.county(county + laws[ahead] + " = 50;");
+                due.is("read", Due.read(x, county + laws[ahead] + " = 50;"), 0);
+                due.is("read", Due.read(x, county + laws[told] + " = 60;"), 0);
+                for (int law = 0; law < 4; law++) {
+                    int want = law == told ? 60 : law == 3 ? 9 : 0;
+                    due.is(laws[law] + " behind " + laws[ahead], law == 3 ? x.house(0, 3) : x.person(0, 6 + law), want);
+                }
+            }
+        }
+    }
+
+    /** As many TOKENS, RIGHTS, AWAY as there can be, again and again: each text has all the room. */
+    private void fullTextsBehindOneAnother() {
+        due.about("it is in place of the one ahead: with all the room that a text has");
+        String sorts = Faults.many(5, "house h# 1;") + Faults.many(7, "person p# 1;") + Faults.many(7, "right p# ha;")
+                + Faults.many(7, "right p# hb;") + Faults.many(6, "right p# hc;") + Faults.many(7, "away pg 5;");
+        AbsentLords x = new AbsentLords();
+        for (int i = 0; i < 6; i++) {
+            due.is("all sorts", Due.read(x, sorts), 0);
+            due.is("RIGHTS", x.count(12), 20);
+        }
+        AbsentLords y = new AbsentLords();
+        for (int i = 0; i < 8; i++) {
+            due.is("all TOKENS", Due.read(y, "person a 1;goes=" + "1+".repeat(196) + i + ";"), 0);
+            due.is("GOES", y.person(0, 6), 100);
+            due.is("COMES", y.person(0, 7), 0);
+            due.is("a short one", Due.read(y, "person a 1;dies=" + i + ";"), 0);
+            due.is("DIES", y.person(0, 8), i);
+            due.is("GOES then", y.person(0, 6), 0);
+        }
     }
 
     private void emptyTape() {

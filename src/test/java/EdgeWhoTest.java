@@ -2,9 +2,6 @@
 public final class EdgeWhoTest {
     private static final int NONE = AbsentLords.NONE;
     private static final int NOBODY = -2;
-    private static final int[] NO_PERSON = {-1, -2, 7, 8, 31, 32, 39, Integer.MAX_VALUE, Integer.MIN_VALUE};
-    private static final int[] NO_HOUSE = {-1, -2, 5, 6, 31, 32, 37, Integer.MAX_VALUE, Integer.MIN_VALUE};
-    private static final int[] NO_WHAT = {-1, -2, 2, 3, Integer.MAX_VALUE, Integer.MIN_VALUE};
     private static final String HOUSES = Faults.many(5, "house h# 1;");
     private static final String PEOPLE = Faults.many(7, "person p# 1;");
     private static final String ALL_AWAY = Faults.many(7, "away p# 1;");
@@ -58,7 +55,7 @@ public final class EdgeWhoTest {
         due.about("Promise 6: NONE for others.");
         AbsentLords x = Busy.county();
         for (int what = 0; what <= 3; what++) {
-            for (int house : NO_HOUSE) {
+            for (int house : Edges.NO_HOUSE) {
                 due.is("house(" + house + ", " + what + ")", x.house(house, what), NONE);
             }
             due.is("no HOUSES", new AbsentLords().house(0, what), NONE);
@@ -95,7 +92,7 @@ public final class EdgeWhoTest {
         due.about("Promise 7: NONE for others.");
         AbsentLords x = Busy.county();
         for (int what = 0; what <= 8; what++) {
-            for (int person : NO_PERSON) {
+            for (int person : Edges.NO_PERSON) {
                 due.is("person(" + person + ", " + what + ")", x.person(person, what), NONE);
             }
             due.is("no PEOPLE", new AbsentLords().person(0, what), NONE);
@@ -188,7 +185,7 @@ public final class EdgeWhoTest {
         due.about("Promises 21 to 24: NONE for others.");
         AbsentLords[] all = {new AbsentLords(), Busy.county(), Due.county(HOUSES + PEOPLE)};
         for (AbsentLords x : all) {
-            for (int what : NO_WHAT) {
+            for (int what : Edges.NO_WHAT) {
                 due.is("fill(" + what + ")", x.fill(what), NONE);
                 due.is("richest(" + what + ")", x.richest(what), NONE);
                 due.is("eldest(" + what + ")", x.eldest(what), NONE);
@@ -291,7 +288,7 @@ public final class EdgeWhoTest {
         for (int house = 0; house < 5; house++) {
             due.is("HOUSE " + house, x.lords(house), want[house]);
         }
-        for (int house : NO_HOUSE) {
+        for (int house : Edges.NO_HOUSE) {
             if (house != NONE) {
                 due.is("lords(" + house + ")", x.lords(house), NONE);
             }
@@ -323,7 +320,7 @@ public final class EdgeWhoTest {
         due.is("DEAD", x.bound(Busy.DEAD), NONE);
         due.is("HOME", x.bound(6), 64 + 32);
         due.is("AWAY, by d to c", x.bound(0), 1 + 2 + 4 + 8);
-        for (int person : NO_PERSON) {
+        for (int person : Edges.NO_PERSON) {
             due.is("bound(" + person + ")", x.bound(person), NONE);
         }
         due.is("no PEOPLE", new AbsentLords().bound(0), NONE);
@@ -342,6 +339,7 @@ public final class EdgeWhoTest {
         x.bury(6);
         due.is("all again", x.idle(), 31);
         due.is("of a busy one", Busy.county().idle(), 4 + 8 + 16);
+        due.is("the first PERSON's", Due.county(HOUSES + PEOPLE + "right pa ha; away pa 0;").idle(), 30);
     }
 
     private void share() {
@@ -365,7 +363,7 @@ public final class EdgeWhoTest {
 
     private void noShare() {
         due.about("Promise 28: NONE: no such PERSON.");
-        for (int person : NO_PERSON) {
+        for (int person : Edges.NO_PERSON) {
             due.is("share(" + person + ")", Busy.county().share(person), NONE);
         }
         due.is("no PEOPLE", new AbsentLords().share(0), NONE);

@@ -5,11 +5,6 @@ public final class EdgeWouldBeTest {
     private static final int NONE = AbsentLords.NONE;
     private static final int NOBODY = -2;
     private static final int NO_LOSS = -100000;
-    private static final int[] NO_PERSON = {-1, -2, 7, 8, 31, 32, 39, Integer.MAX_VALUE, Integer.MIN_VALUE};
-    private static final int[] NO_HOUSE = {-1, -2, 5, 6, 31, 32, 37, Integer.MAX_VALUE, Integer.MIN_VALUE};
-    private static final int[] FROM_0 = {-1, -40, 41, 42, Integer.MAX_VALUE, Integer.MIN_VALUE};
-    private static final int[] FROM_1 = {0, -1, -40, 41, 42, Integer.MAX_VALUE, Integer.MIN_VALUE};
-    private static final int[] NO_WHAT = {-1, -2, 2, 3, Integer.MAX_VALUE, Integer.MIN_VALUE};
     private static final String ALL_CHANCES = "goes = 100; comes = 100; dies = 100;";
 
     private final Due due = new Due();
@@ -109,7 +104,7 @@ public final class EdgeWouldBeTest {
         x.send(6);
         x.give(0, 4, true);
         due.is("the last HOUSE, two", x.heir(4), 6);
-        for (int house : NO_HOUSE) {
+        for (int house : Edges.NO_HOUSE) {
             due.is("heir(" + house + ")", x.heir(house), NONE);
         }
         due.is("no HOUSES", new AbsentLords().heir(0), NONE);
@@ -131,7 +126,7 @@ public final class EdgeWouldBeTest {
         due.is("no HEIR", x.race(1), NOBODY);
         due.is("no LANDLORD", x.race(2), NOBODY);
         due.is("the last HOUSE", x.race(4), NOBODY);
-        for (int house : NO_HOUSE) {
+        for (int house : Edges.NO_HOUSE) {
             due.is("race(" + house + ")", x.race(house), NONE);
         }
         due.is("no HOUSES", new AbsentLords().race(0), NONE);
@@ -153,10 +148,10 @@ public final class EdgeWouldBeTest {
         due.is("40 YEARS", x.gain(1, 40), 40 * 11 + 39 * 40 / 2);
         due.is("HOME", x.gain(6, 40), 0);
         due.is("DEAD", x.gain(Busy.DEAD, 40), 0);
-        for (int n : FROM_0) {
+        for (int n : Edges.NOT_FROM_0) {
             due.is("gain(1, " + n + ")", x.gain(1, n), NONE);
         }
-        for (int person : NO_PERSON) {
+        for (int person : Edges.NO_PERSON) {
             due.is("gain(" + person + ", 1)", x.gain(person, 1), NONE);
         }
         AbsentLords most = Due.county(Faults.many(5, "house h# 99;") + Faults.many(7, "person p# 1;")
@@ -218,14 +213,14 @@ public final class EdgeWouldBeTest {
         due.is("AWAY", x.best(Busy.AWAY, 5, 0), NONE);
         due.is("DEAD", x.best(Busy.DEAD, 5, 0), NONE);
         due.is("HOME", x.best(6, 5, 1), 50 + 51 + 52 + 53 + 54 + 5 * 99);
-        for (int n : FROM_1) {
+        for (int n : Edges.NOT_FROM_1) {
             due.is("best(3, " + n + ", 0)", x.best(3, n, 0), NONE);
             due.is("best(3, " + n + ", 1)", x.best(3, n, 1), NONE);
         }
-        for (int person : NO_PERSON) {
+        for (int person : Edges.NO_PERSON) {
             due.is("best(" + person + ", 1, 0)", x.best(person, 1, 0), NONE);
         }
-        for (int what : NO_WHAT) {
+        for (int what : Edges.NO_WHAT) {
             due.is("best(3, 1, " + what + ")", x.best(3, 1, what), NONE);
         }
     }
@@ -254,10 +249,10 @@ public final class EdgeWouldBeTest {
         AbsentLords x = Busy.county();
         due.is("HOME", x.loss(Busy.HOME, 5), NO_LOSS);
         due.is("DEAD", x.loss(Busy.DEAD, 5), NO_LOSS);
-        for (int n : FROM_0) {
+        for (int n : Edges.NOT_FROM_0) {
             due.is("loss(1, " + n + ")", x.loss(1, n), NO_LOSS);
         }
-        for (int person : NO_PERSON) {
+        for (int person : Edges.NO_PERSON) {
             due.is("loss(" + person + ", 1)", x.loss(person, 1), NO_LOSS);
         }
     }
@@ -283,6 +278,16 @@ public final class EdgeWouldBeTest {
         away.years(1);
         due.is("behind c, who is gone longer", away.duel(0, 1, 40, 3, 0), 0);
         due.is("what c has not", away.duel(0, 1, 40, 3, 1), 800);
+        AbsentLords rich = Due.county(county + "away a 9; away b 9;");
+        rich.years(2);
+        rich.call(0);
+        rich.call(1);
+        due.is("a got so far", rich.person(0, 3), 20);
+        due.is("b got so far", rich.person(1, 3), 40);
+        for (int choice = 0; choice < 4; choice++) {
+            due.is("a, so far is not in it", rich.duel(0, 1, 1, choice, 0), first[choice]);
+            due.is("b, so far is not in it", rich.duel(0, 1, 1, choice, 1), other[choice]);
+        }
     }
 
     private void notDuel() {
@@ -300,11 +305,11 @@ public final class EdgeWouldBeTest {
         due.is("both not HOME", x.duel(0, 1, 1, 0, 0), NONE);
         due.is("one and the same", x.duel(3, 3, 1, 0, 0), NONE);
         due.is("rest, one and the same", x.rest(3, 3, 1), NONE);
-        for (int n : FROM_1) {
+        for (int n : Edges.NOT_FROM_1) {
             due.is("duel, n " + n, x.duel(3, 5, n, 0, 0), NONE);
             due.is("rest, n " + n, x.rest(3, 5, n), NONE);
         }
-        for (int person : NO_PERSON) {
+        for (int person : Edges.NO_PERSON) {
             due.is("duel " + person, x.duel(person, 3, 1, 0, 0), NONE);
             due.is("duel, other " + person, x.duel(3, person, 1, 0, 0), NONE);
             due.is("rest " + person, x.rest(person, 3, 1), NONE);
@@ -313,7 +318,7 @@ public final class EdgeWouldBeTest {
         for (int choice : new int[] {-1, -2, 4, 5, Integer.MAX_VALUE, Integer.MIN_VALUE}) {
             due.is("choice " + choice, x.duel(3, 5, 1, choice, 0), NONE);
         }
-        for (int what : NO_WHAT) {
+        for (int what : Edges.NO_WHAT) {
             due.is("what " + what, x.duel(3, 5, 1, 0, what), NONE);
         }
     }
@@ -377,15 +382,15 @@ public final class EdgeWouldBeTest {
     private void notInYears() {
         due.about("Promises 29 to 31: NONE: no such ones.");
         AbsentLords x = Busy.county();
-        for (int n : FROM_0) {
+        for (int n : Edges.NOT_FROM_0) {
             due.is("lordIn(0, " + n + ")", x.lordIn(0, n), NONE);
             due.is("then(" + n + ", 0)", x.then(n, 0), NONE);
             due.is("gotIn(0, " + n + ")", x.gotIn(0, n), NONE);
         }
-        for (int house : NO_HOUSE) {
+        for (int house : Edges.NO_HOUSE) {
             due.is("lordIn(" + house + ", 0)", x.lordIn(house, 0), NONE);
         }
-        for (int person : NO_PERSON) {
+        for (int person : Edges.NO_PERSON) {
             due.is("gotIn(" + person + ", 0)", x.gotIn(person, 0), NONE);
         }
         for (int what : new int[] {-1, -3, 3, 4, Integer.MAX_VALUE, Integer.MIN_VALUE}) {
@@ -441,10 +446,10 @@ public final class EdgeWouldBeTest {
         for (int s : new int[] {0, -1, 21, 22, Integer.MAX_VALUE, Integer.MIN_VALUE}) {
             due.is("s " + s, x.year(0, 1, s), NONE);
         }
-        for (int n : FROM_0) {
+        for (int n : Edges.NOT_FROM_0) {
             due.is("n " + n, x.year(0, n, 1), NONE);
         }
-        for (int person : NO_PERSON) {
+        for (int person : Edges.NO_PERSON) {
             due.is("person " + person, x.year(person, 1, 1), NONE);
         }
         due.is("no PEOPLE", new AbsentLords().year(0, 0, 1), NONE);
