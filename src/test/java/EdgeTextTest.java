@@ -23,6 +23,7 @@ public final class EdgeTextTest extends Faults {
         test.lastLaws();
         test.seeds();
         test.places();
+        test.whatGoesOn();
         test.leastOfOnePlace();
         test.tokensOfText();
         test.oneMoreOfASort();
@@ -364,6 +365,51 @@ public final class EdgeTextTest extends Faults {
         at("right ^x y; house a 100; house a 1;", NAME);
         at("^. .", SYNTAX);
         at("house ^1 1 1;", SYNTAX);
+    }
+
+    /** Behind each beginning every kind of TOKEN, and what is none: only those told here go on. */
+    private void whatGoesOn() {
+        due.about("1 SYNTAX: a TOKEN, or what is none, with which no text goes on");
+        String tells = "house person right away goes comes dies rents seed";
+        String unit = "7 ( rent age gone got year rights lord which home";
+        String more = "+ - * / ";
+        String[][] begun = {{"", tells}, {"seed 1 ;", tells}, {"house", "x"}, {"house x", "7"}, {"house x 1", ";"}, {"person", "x"},
+            {"person x", "7"}, {"person x 1", ";"}, {"right", "x"}, {"right x", "x"}, {"right x y", ";"}, {"away", "x"},
+            {"away x", "7"}, {"away x 1", ";"}, {"seed", "7"}, {"seed 1", ";"}};
+        for (String[] one : begun) {
+            onlyThese(one[0], one[1]);
+        }
+        for (String law : new String[] {"goes", "comes", "dies", "rents"}) {
+            onlyThese(law, "=");
+            onlyThese(law + " =", unit + " if");
+            for (String value : new String[] {"1", "age", "( 1 )", "1 + 2", "1 * 2 - home"}) {
+                onlyThese(law + " = " + value, more + ";");
+                onlyThese(law + " = ( " + value, more + ")");
+                onlyThese(law + " = if " + value, more + "<");
+                onlyThese(law + " = if ( " + value, more + ")");
+                onlyThese(law + " = if 1 < " + value, more + "then");
+                onlyThese(law + " = if 1 < 2 then " + value, more + "else");
+                onlyThese(law + " = if 1 < 2 then 3 else " + value, more + ";");
+            }
+            for (String open : new String[] {"1 +", "1 -", "1 *", "1 /", "(", "( 1 +", "( (", "if", "if 1 +", "if 1 <", "if 1 < (",
+                "if 1 < 2 then", "if 1 < 2 then 3 *", "if 1 < 2 then 3 else 4 /"}) {
+                onlyThese(law + " = " + open, unit);
+            }
+            onlyThese(law + " = if 1 < 2 then 3 else", unit + " if");
+        }
+    }
+
+    private void onlyThese(String begun, String goOn) {
+        String[] others = {"x", "7", ";", "=", "+", "-", "*", "/", "<", "(", ")", ".", "abcdefghi", "12345"};
+        for (String[] kinds : new String[][] {others, WORDS}) {
+            for (String kind : kinds) {
+                String text = begun + " " + kind;
+                AbsentLords x = new AbsentLords();
+                int fault = Due.read(x, text);
+                boolean refused = fault == SYNTAX && x.place() == begun.length() + 1;
+                due.is("refused at the last of: " + text, refused, !(" " + goOn + " ").contains(" " + kind + " "));
+            }
+        }
     }
 
     private void leastOfOnePlace() {
