@@ -2,7 +2,7 @@ import java.lang.reflect.Method;
 import java.util.Arrays;
 
 /**
- * All promises: every call at every edge of each of its arguments, with every edge of the others, in counties that
+ * All promises but feed: each call at the edges of each of its arguments, with those of the others, in counties that
  * are empty, full and between: answered by the program and by the model alike, and never by an exception.
  */
 public final class EdgeGridTest {
