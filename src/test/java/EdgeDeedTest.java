@@ -147,6 +147,14 @@ public final class EdgeDeedTest {
             refused("give(0, " + house + ", true)", x -> x.give(0, house, true));
             refused("give(0, " + house + ", false)", x -> x.give(0, house, false));
         }
+        // Those that other texts could have.
+        AbsentLords few = Due.county("house h 1; house k 1; person a 1; person b 1;");
+        due.is("to the last one", few.give(1, 1, true), true);
+        due.is("a HOUSE behind the last", few.give(1, 2, true), false);
+        due.is("the HOUSE that could be the last", few.give(1, 4, true), false);
+        due.is("a PERSON behind the last", few.give(2, 1, true), false);
+        due.is("the PERSON who could be the last", few.give(6, 1, true), false);
+        due.is("RIGHTS", few.count(12), 1);
     }
 
     /** The 20 are of a text: promise 11 refuses nothing else than what it names. */
@@ -171,6 +179,13 @@ public final class EdgeDeedTest {
         due.is("years(39)", Busy.county().years(39), 42);
         due.is("years(40)", Busy.county().years(40), 43);
         due.is("of nobody", new AbsentLords().years(40), 40);
+        AbsentLords chances = Due.county("house h 7; person a 1; person b 1; person c 1; right b h; away b 1;"
+                + "goes = 100; comes = 100; dies = if which < 2 then 0 else 100;");
+        due.is("with chances", chances.years(1), 1);
+        due.is("one went", chances.count(4), 1);
+        due.is("one came", chances.count(3), 2);
+        due.is("one died", chances.count(5), 4);
+        due.is("who came got the RENT", chances.person(1, 3), 7);
         Seen.alike(due, "40 in one go are 40 times one, but that they are one thing:", () -> {
             AbsentLords x = Busy.county();
             x.years(40);

@@ -16,6 +16,7 @@ public final class EdgeLawTest {
         test.lessThan();
         test.wrapped();
         test.roundedTowardsZero();
+        test.leftToRight();
         test.dividedByNothing();
         test.notLookedAt();
         test.ages();
@@ -61,6 +62,8 @@ public final class EdgeLawTest {
         x.give(2, 0, false);
         x.call(1);
         due.is("gone 0 years, alone", x.house(0, 1), 0);
+        AbsentLords home = Due.county("house h 9; person a 1; person b 1; right a h; right b h; away b 0;");
+        due.is("gone 0 years, not the first, who is HOME", home.house(0, 1), 1);
         AbsentLords all = Due.county(Faults.many(5, "house h# 1;") + Faults.many(7, "person p# 1;")
                 + "right pg he; right pf he; away pg 7; away pf 6;");
         due.is("the last PERSON of the last HOUSE", all.house(4, 1), 6);
@@ -134,6 +137,24 @@ public final class EdgeLawTest {
         rents("10 + (0 - 2) / 2", 9);
         rents("8 / 2", 4);
         rents("0 / 9 + 4", 4);
+    }
+
+    private void leftToRight() {
+        due.about("E: PART {('+' | '-') PART}. PART: UNIT {('*' | '/') UNIT}. UNIT: INT | VAR | '(' E ')'.");
+        rents("10 - 3 - 2", 5);
+        rents("10 - 3 + 2", 9);
+        rents("10 + 3 - 2", 11);
+        rents("80 / 4 / 2", 10);
+        rents("80 / 4 * 2", 40);
+        rents("7 * 3 / 2", 10);
+        rents("2 + 3 * 4", 14);
+        rents("3 * 4 + 2", 14);
+        rents("20 - 8 / 2", 16);
+        rents("(2 + 3) * 4", 20);
+        rents("20 - (8 - 2)", 14);
+        rents("80 / (4 / 2)", 40);
+        rents("age - gone * rent / 2", 0);
+        rents("(age - gone) * rent / 2", 24);
     }
 
     private void dividedByNothing() {

@@ -186,6 +186,8 @@ public final class EdgeLetterTest {
         twice.tell(0, 1);
         due.is("one letter twice", twice.orders(2), 2520);
         due.is("two and two", told(0, 1, 2, 3).orders(2), 1260);
+        due.is("two before one", told(0, 2, 1, 2).orders(2), 1680);
+        due.is("one before two", told(2, 0, 2, 1).orders(2), 1680);
     }
 
     private static AbsentLords told(int... pairs) {

@@ -422,6 +422,11 @@ public final class EdgeTextTest extends Faults {
         at(full + "^x", SYNTAX);
         at(full + "^.", SYNTAX);
         at(full + "^aaaaaaaaa", SYNTAX);
+        // The same within a TELL.
+        at(filled(399) + "house ^5", SYNTAX);
+        at(filled(398) + "house a ^b", SYNTAX);
+        at(filled(398) + "goes = ^;", SYNTAX);
+        at(filled(396) + "goes = 1 + ^)", SYNTAX);
         // A 6th house, an 8th person, a 21st right, an 8th away, a 5th if, a 7th ( where none can stand.
         at(many(5, "house h# 1;") + "person ^house", SYNTAX);
         at(many(7, "person p# 1;") + "house ^person", SYNTAX);

@@ -231,6 +231,13 @@ public final class EdgeWhoTest {
         }
         due.is("nobody alive, who", x.eldest(0), NOBODY);
         due.is("nobody alive, the age", x.eldest(1), NOBODY);
+        AbsentLords later = Due.county("person a 9; person b 9; person c 8;");
+        later.years(7);
+        due.is("as it is now", later.eldest(1), 16);
+        later.bury(0);
+        later.years(1);
+        due.is("not the DEAD", later.eldest(0), 1);
+        due.is("a year later", later.eldest(1), 17);
         AbsentLords last = Due.county(Faults.many(6, "person p# 1;") + "person z 2;");
         due.is("the last one", last.eldest(0), 6);
         AbsentLords none = Due.county("person a 0;");

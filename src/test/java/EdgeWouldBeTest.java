@@ -86,6 +86,8 @@ public final class EdgeWouldBeTest {
         due.is("gain of one HOME", x.gain(1, 40), 0);
         due.is("best", x.best(1, 40, 1), 280);
         due.is("loss", x.loss(0, 40), 0);
+        String two = "house h 5; person a 1; person b 1; right a h; right b h; away a 2; away b 1;";
+        due.is("loss to the next", Due.county(two + ALL_CHANCES).loss(0, 40), 200);
         due.is("duel", x.duel(1, 2, 40, 3, 0), 280);
         due.is("rest", x.rest(1, 2, 40), y.rest(1, 2, 40));
         due.is("IN n YEARS", x.then(1, 2), 7);
@@ -372,6 +374,16 @@ public final class EdgeWouldBeTest {
         due.is("0 YEARS", x.lordIn(0, 0), 1);
         due.is("nobody", x.lordIn(2, 40), NOBODY);
         due.is("so far", x.gotIn(1, 0), 27);
+        for (int n : new int[] {0, 1, 2}) {
+            due.is("HOME in " + n, x.then(n, 0), 8 + 32 + 64);
+            due.is("AWAY in " + n, x.then(n, 1), 1 + 2 + 4);
+            due.is("DEAD in " + n, x.then(n, 2), 16);
+        }
+        AbsentLords each = Due.county("person a 1; person b 1; person c 1; away b 1; goes = 100; comes = 100;"
+                + "dies = if which < 2 then 0 else 100;");
+        due.is("who came", each.then(1, 0), 2);
+        due.is("who went", each.then(1, 1), 1);
+        due.is("who died", each.then(1, 2), 4);
         AbsentLords all = Due.county("house h 5; person a 1; right a h; away a 1;" + ALL_CHANCES);
         due.is("by then", all.gotIn(0, 1), 5);
         due.is("and no more", all.gotIn(0, 40), 5);
